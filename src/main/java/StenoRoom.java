@@ -39,6 +39,7 @@ public final class StenoRoom {
     private final Tape tape;
     private final Book entries;
     private final Reading record;
+    private final Page page;
     private final Transcript transcript;
     private final Planner planner;
     private final Runs runs;
@@ -49,7 +50,9 @@ public final class StenoRoom {
         tape = new Tape();
         entries = new Book();
         record = new Reading(entries);
-        transcript = new Transcript(entries, record);
+        // nothing is longer than a raw stroke of all keys and the blank ahead of it
+        page = new Page(entries, RECORD_STROKES * (KEY_COUNT + 1));
+        transcript = new Transcript(entries, record, page);
         planner = new Planner(entries);
         runs = new Runs(entries);
         chord = new Chord();
@@ -138,15 +141,16 @@ public final class StenoRoom {
     }
 
     public int count(int what) {
+        transcript.settle();
         switch (what) {
             case 0: return record.size();
-            case 1: return transcript.translations();
-            case 2: return transcript.rawOnes();
-            case 3: return transcript.settledPage().size();
+            case 1: return transcript.size();
+            case 2: return transcript.raws();
+            case 3: return page.size();
             case 4: return entries.size();
             case 5: return tape.size();
-            case 6: return transcript.settledPage().shift();
-            case 7: return transcript.settledPage().link();
+            case 6: return page.shift();
+            case 7: return page.link();
             case 8: return planner.plannedEntries();
             case 9: return planner.plannedStrokes();
             default: return NONE;
@@ -154,7 +158,8 @@ public final class StenoRoom {
     }
 
     public int told(int t, int what) {
-        if (t < 0 || t >= transcript.translations()) {
+        transcript.settle();
+        if (t < 0 || t >= transcript.size()) {
             return NONE;
         }
         switch (what) {
@@ -168,10 +173,12 @@ public final class StenoRoom {
     }
 
     public int octet(int i) {
-        return transcript.settledPage().byteAt(i);
+        transcript.settle();
+        return page.byteAt(i);
     }
 
     public int of(int i) {
+        transcript.settle();
         return transcript.ownerOf(i);
     }
 
@@ -219,6 +226,7 @@ public final class StenoRoom {
         if (!entries.has(k)) {
             return NONE;
         }
+        transcript.settle();
         if (what >= 20) {
             return entries.letterAt(k, what - 20);
         }
@@ -275,7 +283,11 @@ public final class StenoRoom {
     }
 
     private static boolean isLetter(int octet) {
-        return isSmall(octet) || octet >= 'A' && octet <= 'Z';
+        return octet >= 'a' && octet <= 'z' || octet >= 'A' && octet <= 'Z';
+    }
+
+    private static int smallOf(int letter) {
+        return letter >= 'A' && letter <= 'Z' ? letter - 'A' + 'a' : letter;
     }
 
     private static boolean isVowel(int small) {
@@ -612,6 +624,8 @@ public final class StenoRoom {
         private int size;
         private int shift;
         private int link;
+        private int lastWordLength;
+        private int lastWordVowels;
 
         Page(Book book, int most) {
             this.book = book;
@@ -657,7 +671,11 @@ public final class StenoRoom {
                     link = 1;
                     break;
                 case SUFFIX:
-                    writeSuffix(k);
+                    if (endsByLetter()) {
+                        joinSuffix(k);
+                    } else {
+                        writeText(k);
+                    }
                     break;
                 case GLUE:
                     link = behindGlue ? 1 : link;
@@ -694,15 +712,13 @@ public final class StenoRoom {
             shift = 0;
         }
 
-        void writeSuffix(int k) {
-            int length = lastWordLength();
-            if (length == 0) {
-                writeText(k);
-                return;
-            }
-            boolean isS = book.lengthOf(k) == 1 && book.letterAt(k, 0) == 's';
+        /** Joins a suffix to the last word; only asked for where the text ends by a letter. */
+        void joinSuffix(int k) {
+            int begins = book.letterAt(k, 0);
+            boolean isS = begins == 's' && book.lengthOf(k) == 1;
+            measureLastWord(isVowel(begins));
             int last = smallFromEnd(0);
-            switch (ruleFor(length, book.letterAt(k, 0), isS)) {
+            switch (ruleFor(last, smallFromEnd(1), begins, isS)) {
                 case Y_BECOMES_I:
                     size--;
                     put('i');
@@ -740,10 +756,8 @@ public final class StenoRoom {
             return true;
         }
 
-        private int ruleFor(int length, int begins, boolean isS) {
-            int last = smallFromEnd(0);
-            int ahead = length >= 2 ? smallFromEnd(1) : NONE;
-            if (last == 'y' && length >= 2 && !isVowel(ahead) && begins != 'i') {
+        private int ruleFor(int last, int ahead, int begins, boolean isS) {
+            if (last == 'y' && lastWordLength >= 2 && !isVowel(ahead) && begins != 'i') {
                 return Y_BECOMES_I;
             }
             if (isS && hisses(last, ahead)) {
@@ -752,12 +766,12 @@ public final class StenoRoom {
             if (!isVowel(begins)) {
                 return AS_IT_IS;
             }
-            if (last == 'e' && length >= 2 && ahead != 'e' && ahead != 'o' && ahead != 'y') {
+            if (last == 'e' && lastWordLength >= 2 && ahead != 'e' && ahead != 'o' && ahead != 'y') {
                 return E_GOES;
             }
             boolean keepsLast = last == 'w' || last == 'x' || last == 'y';
             // the only vowel stands next to the last letter: so neither of its neighbours is one
-            if (length >= 3 && !keepsLast && isVowel(ahead) && vowelsOfLast(length) == 1) {
+            if (lastWordLength >= 3 && !keepsLast && isVowel(ahead) && lastWordVowels == 1) {
                 return LAST_ONCE_MORE;
             }
             return AS_IT_IS;
@@ -768,28 +782,33 @@ public final class StenoRoom {
             return last == 's' || last == 'x' || last == 'z' || behindH;
         }
 
-        private int lastWordLength() {
-            int length = 0;
-            for (int i = size - 1; i >= 0 && isLetter(bytes[i]); i--) {
-                length++;
-            }
-            return length;
+        private boolean endsByLetter() {
+            return size > 0 && isLetter(bytes[size - 1]);
         }
 
-        private int vowelsOfLast(int length) {
-            int vowels = 0;
-            for (int i = 0; i < length; i++) {
-                if (isVowel(smallFromEnd(i))) {
-                    vowels++;
+        /**
+         * Counts only as far as a rule may ask: whether there are three letters and, for a suffix that
+         * begins by a vowel, a second vowel. So words grown long by joining cost no more than others.
+         */
+        private void measureLastWord(boolean aheadOfVowel) {
+            int vowelsAsked = aheadOfVowel ? 2 : 0;
+            lastWordLength = 0;
+            lastWordVowels = 0;
+            for (int i = size - 1; i >= 0 && isLetter(bytes[i]); i--) {
+                if (lastWordLength >= 3 && lastWordVowels >= vowelsAsked) {
+                    return;
+                }
+                lastWordLength++;
+                if (isVowel(smallOf(bytes[i]))) {
+                    lastWordVowels++;
                 }
             }
-            return vowels;
         }
 
-        /** The letter so far from the text's end, made small; only asked for where letters stand. */
+        /** The letter so far from the end of the last word, made small. */
         private int smallFromEnd(int i) {
             int at = size - 1 - i;
-            return at >= 0 && at < size ? bytes[at] | 32 : NONE;
+            return i < lastWordLength && at >= 0 && at < size ? smallOf(bytes[at]) : NONE;
         }
 
         private void writeMark(int k) {
@@ -812,7 +831,10 @@ public final class StenoRoom {
         }
     }
 
-    /** The translations of the record as they stand, and their text; made when they are asked for. */
+    /**
+     * The translations of the record as they stand, and their text. They are made anew by settle(), which
+     * goes ahead of every question, so that a row of changes costs no more than one.
+     */
     private static final class Transcript {
         private final Book book;
         private final Reading record;
@@ -825,39 +847,44 @@ public final class StenoRoom {
         private int raws;
         private boolean settled;
 
-        Transcript(Book book, Reading record) {
+        Transcript(Book book, Reading record, Page page) {
             this.book = book;
             this.record = record;
-            // nothing is longer than a raw stroke of all keys and the blank ahead of it
-            page = new Page(book, RECORD_STROKES * (KEY_COUNT + 1));
+            this.page = page;
         }
 
         void forget() {
             settled = false;
         }
 
-        Page settledPage() {
-            settle();
-            return page;
+        void settle() {
+            if (settled) {
+                return;
+            }
+            record.read();
+            findLasts();
+            page.empty();
+            raws = 0;
+            for (int t = 0; t < size; t++) {
+                writeTranslation(t);
+                behinds[t] = page.size();
+            }
+            settled = true;
         }
 
-        int translations() {
-            settle();
+        int size() {
             return size;
         }
 
-        int rawOnes() {
-            settle();
+        int raws() {
             return raws;
         }
 
         int ownerOf(int i) {
-            settle();
             return record.has(i) && i < RECORD_STROKES ? owners[i] : NONE;
         }
 
         int countOf(int k) {
-            settle();
             int n = 0;
             for (int t = 0; t < size; t++) {
                 if (record.entryAt(lasts[t]) == k) {
@@ -889,21 +916,6 @@ public final class StenoRoom {
 
         private int lastOf(int t) {
             return t >= 0 && t < size ? lasts[t] : NONE;
-        }
-
-        private void settle() {
-            if (settled) {
-                return;
-            }
-            record.read();
-            findLasts();
-            page.empty();
-            raws = 0;
-            for (int t = 0; t < size; t++) {
-                writeTranslation(t);
-                behinds[t] = page.size();
-            }
-            settled = true;
         }
 
         /** From the end on each translation tells where the one ahead of it ends. */
@@ -1055,7 +1067,7 @@ public final class StenoRoom {
             }
             trial.empty();
             trial.writeText(w);
-            trial.writeSuffix(s);
+            trial.joinSuffix(s);
             return trial.isAt(words, from, to);
         }
     }
