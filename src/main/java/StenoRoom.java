@@ -226,7 +226,6 @@ public final class StenoRoom {
         if (!entries.has(k)) {
             return NONE;
         }
-        transcript.settle();
         if (what >= 20) {
             return entries.letterAt(k, what - 20);
         }
@@ -237,7 +236,9 @@ public final class StenoRoom {
             case 0: return entries.kindOf(k);
             case 1: return entries.strokesOf(k);
             case 2: return entries.lengthOf(k);
-            case 3: return transcript.countOf(k);
+            case 3:
+                transcript.settle();
+                return transcript.countOf(k);
             default: return NONE;
         }
     }
@@ -333,7 +334,7 @@ public final class StenoRoom {
         void spell(int keys) {
             size = 0;
             boolean dashDue = (keys & MIDDLE_KEYS) == 0;
-            for (int key = 0; key < KEY_COUNT; key++) {
+            for (int key = 0; key < KEYS.length(); key++) {
                 if ((keys >> key & 1) == 1) {
                     if (dashDue && key >= FIRST_RIGHT_KEY) {
                         put('-');

@@ -102,7 +102,7 @@ public final class FaceTest {
         check.due("only signs 1 to 127", code.chars().allMatch(c -> c > 0 && c < 128), true);
         Matcher libraries = Pattern.compile("\\b(System|Math|KEYS)\\.(\\w+)").matcher(code);
         while (libraries.find()) {
-            boolean listed = Set.of("arraycopy", "min", "max", "charAt").contains(libraries.group(2));
+            boolean listed = Set.of("arraycopy", "min", "max", "charAt", "length").contains(libraries.group(2));
             check.due(libraries.group() + " is listed", listed, true);
         }
     }

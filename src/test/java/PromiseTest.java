@@ -478,6 +478,9 @@ public final class PromiseTest {
         due("12: a comma leaves it", textOf(room(book), 3, 8, 1), ", CAT");
         due("12: a stop makes it 1", textOf(room(book), 3, 7, 1), ". Cat");
         due("12: join leaves it", textOf(room(book), 1, 2, 9, 1), "catCat");
+        StenoRoom waits = room(book);
+        due("12: a shift that waits", textOf(waits, 1, 2), "cat");
+        due("12: is not there when all is written anew", textOf(waits, 1), "cat Cat");
     }
 
     private static void links() {
@@ -498,6 +501,11 @@ public final class PromiseTest {
         due("12: a suffix without a word", textOf(room(book), 1, 8, 6), "cat, s");
         due("12: a suffix behind a stop", textOf(room(book), 1, 7, 6), "cat. S");
         due("12: a suffix ahead of all", textOf(room(book), 6, 6), "ses");
+        StenoRoom waits = room(book);
+        strokes(waits, 2);
+        due("10: a link that waits", waits.count(7), 1);
+        waits.back();
+        due("10: is taken back", waits.count(7), 0);
     }
 
     private static void marks() {
@@ -606,6 +614,8 @@ public final class PromiseTest {
         due("12: prefix and at", textOf(room(book), 3, 5, 2), "beated");
         due("12: joined words are one", textOf(room(book), 16, 6, 16, 2), "stopstoped");
         due("12: suffixes one behind the other", textOf(room(book), 16, 2, 1), "stoppeds");
+        due("12: raw A", textOf(room(book), 128, 1), "As");
+        due("12: raw Z", textOf(room(book), 2097152, 1), "-Zes");
         due("12: after a dash", textOf(room(book), 4096, 2), "-Fed");
     }
 
@@ -668,6 +678,9 @@ public final class PromiseTest {
         plans("", -2, "ca", "0 cat 1");
         plans("", -2, "cat dog", "0 cat 1");
         plans("", -2, "a");
+        plans("", -2, "ad", "0 e 1", "2 d 2");
+        plans("", -2, "ebd", "0 eb 1", "2 ad 2");
+        plans("", -2, "cat", "3 . 1", "4 , 2", "6 - 3", "7 - 4", "8 - 5");
     }
 
     private static void planOrder() {
@@ -803,6 +816,9 @@ public final class PromiseTest {
         due("18: a and aa", self.together(0, 1), 1);
         due("18: aa and a", self.together(1, 0), 0);
         due("18: aa and aa", self.together(1, 1), 0);
+        StenoRoom first = room("0 ab 1 2", "0 a 1", "0 b 2");
+        due("18: the longer one comes first", first.together(1, 2), 1);
+        due("19: so in pairs", Check.pairs(first), "1+2");
         StenoRoom five = room("0 a 1 2 3 4", "0 b 5", "0 c 5 6 7 8 9", "0 e 1 2 3 4 5", "0 f 6");
         due("18: five strokes", five.together(0, 1), 1);
         due("18: five of nine", five.together(0, 2), 1);
