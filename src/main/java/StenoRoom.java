@@ -76,17 +76,14 @@ public final class StenoRoom {
         if (strokes == 0 || !Book.takesLength(kind, n) || n > tape.size()) {
             return NONE;
         }
-        if (!tapeFits(kind, n)) {
-            tape.wipe();
-            return NONE;
+        boolean taken = tapeFits(kind, n) && !entries.isFull() && !entries.hasOutline(outline, strokes);
+        if (taken) {
+            entries.add(outline, strokes, kind, tape, n);
+            readAnew(0);
         }
-        if (entries.isFull() || entries.hasOutline(outline, strokes)) {
-            return NONE;
-        }
-        entries.add(outline, strokes, kind, tape, n);
+        // Whatever has come as far as the bytes of the tape uses them up, refused or not.
         tape.wipe();
-        readAnew(0);
-        return entries.size() - 1;
+        return taken ? entries.size() - 1 : NONE;
     }
 
     public boolean drop(int k) {

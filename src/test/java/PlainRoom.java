@@ -90,14 +90,13 @@ final class PlainRoom {
             return NONE;
         }
         String text = tape.substring(0, n);
+        tape = "";
         if (!text.matches(mark ? "[.,;:?!]" : "[a-z]*")) {
-            tape = "";
             return NONE;
         }
         if (find(outline) != NONE || book.size() == 60) {
             return NONE;
         }
-        tape = "";
         book.add(new Entry(outline, kind, text));
         return book.size() - 1;
     }

@@ -232,7 +232,19 @@ public final class PromiseTest {
         StenoRoom room = room("0 cat 1");
         Check.feed(room, "dog");
         due("3: outline is there", room.entry(1, 0, 0, 0, 0, WORD, 3), NONE);
-        due("3: outline is there, the tape stays", room.count(5), 20);
+        due("3: outline is there, the tape is empty", room.count(5), 0);
+        due("3: nothing is there to take", room.entry(2, 0, 0, 0, 0, WORD, 3), NONE);
+        due("3: the book is as it was", room.count(4), 1);
+        due("3: its text, too", room.book(0, 20), 'c');
+        Check.feed(room, "dog");
+        due("3: outline is there and n above 16", room.entry(1, 0, 0, 0, 0, WORD, 17), NONE);
+        due("3: outline is there and no such kind", room.entry(1, 0, 0, 0, 0, 9, 3), NONE);
+        due("3: outline is there and no such n", room.entry(1, 0, 0, 0, 0, UPPER, 3), NONE);
+        due("3: what stands ahead in the list leaves the tape", room.count(5), 20);
+        due("3: outline is there, a command", room.entry(1, 0, 0, 0, 0, UPPER, 0), NONE);
+        due("3: a command refused so empties the tape", room.count(5), 0);
+        due("3: outline is there and an empty tape", room.entry(1, 0, 0, 0, 0, WORD, 3), NONE);
+        Check.feed(room, "dog");
         due("3: taken then", room.entry(2, 0, 0, 0, 0, WORD, 3), 1);
         Check.feed(room, "Dog");
         due("3: outline is there and bytes", room.entry(1, 0, 0, 0, 0, WORD, 3), NONE);
@@ -253,8 +265,13 @@ public final class PromiseTest {
         }
         Check.feed(room, "abc");
         due("3: 60 are there", room.entry(100, 0, 0, 0, 0, WORD, 3), NONE);
-        due("3: 60 are there, the tape stays", room.count(5), 20);
+        due("3: 60 are there, the tape is empty", room.count(5), 0);
+        Check.feed(room, "abc");
         due("3: 60 are there, a command", room.entry(100, 0, 0, 0, 0, CAPITAL, 0), NONE);
+        due("3: 60 are there, a command empties the tape", room.count(5), 0);
+        Check.feed(room, "abc");
+        due("3: 60 are there, wrong n", room.entry(100, 0, 0, 0, 0, WORD, 17), NONE);
+        due("3: 60 are there, wrong n, the tape stays", room.count(5), 20);
         due("3: count", room.count(4), 60);
         due("4: last goes", room.drop(59), true);
         due("3: room again", room.entry(100, 0, 0, 0, 0, WORD, 3), 59);
