@@ -2,13 +2,19 @@
 final class Check {
     private int wrong;
     private int asked;
+    private String sentence = "";
+
+    /** The document's words that the next answers are about; they stand ahead of each row that is printed. */
+    void sentence(String words) {
+        sentence = "\"" + words + "\": ";
+    }
 
     void due(String call, int got, int want) {
         asked++;
         if (got != want) {
             wrong++;
             if (wrong <= 50) {
-                System.out.println(call + " answered " + got + ", due is " + want);
+                System.out.println(sentence + call + " answered " + got + ", due is " + want);
             }
         }
     }
@@ -22,7 +28,7 @@ final class Check {
         if (!got.equals(want)) {
             wrong++;
             if (wrong <= 50) {
-                System.out.println(call + " answered \"" + got + "\", due is \"" + want + "\"");
+                System.out.println(sentence + call + " answered \"" + got + "\", due is \"" + want + "\"");
             }
         }
     }
