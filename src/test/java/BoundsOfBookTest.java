@@ -43,6 +43,8 @@ public final class BoundsOfBookTest {
         numbersFromZero();
         dropsOnlyWhatIsThere();
         numbersOneLower();
+        allOfAnEntryMoves();
+        firstStrokeIsReadAnew();
         droppedOutlineIsFree();
         factsOfAnEntry();
         strokesAndBytesOfAnEntry();
@@ -366,7 +368,7 @@ public final class BoundsOfBookTest {
     }
 
     private static void sixtyAtMost() {
-        sentence("THE BOOK has ENTRIES, 60 at most; NONE: 60 are there");
+        sentence("THE BOOK has ENTRIES, 60 at most; NONE: .. 60 are there");
         Desk desk = sixty();
         due("the 61st", desk.entry(100, 0, 0, 0, 0, CAPITAL, 0), NONE);
         due("sixty", desk.count(4), 60);
@@ -443,6 +445,33 @@ public final class BoundsOfBookTest {
         due("there is no 4", desk.book(4, 0), NONE);
         due("drop 3, the last", desk.drop(3), true);
         due("those ahead keep their numbers", desk.translations(), "0 1 2 * 0");
+    }
+
+    private static void allOfAnEntryMoves() {
+        sentence("others behind it get numbers 1 lower");
+        String[] all = {"0 cat 1", "8 - 1 2", "5 " + SIXTEEN + " 1 2 3 4 5", "3 ; 4194303", "2 ing 4 5 6", "1 re 7 8 9 10"};
+        for (int k = 0; k < all.length; k++) {
+            Desk desk = new Desk(all);
+            due("drop " + k, desk.drop(k), true);
+            for (int left = 0; left < all.length - 1; left++) {
+                due(left + " behind drop " + k, desk.entryTold(left), all[left < k ? left : left + 1]);
+            }
+            due("the last number is none now", desk.book(all.length - 1, 0), NONE);
+        }
+    }
+
+    private static void firstStrokeIsReadAnew() {
+        sentence("others behind it get numbers 1 lower; all is READ anew");
+        Desk desk = new Desk("0 a 1", "0 b 2");
+        due("ahead of it", desk.translationsOf(1, 2, 1), "0 1 0");
+        desk.drop(0);
+        due("the first stroke is raw", desk.translations(), "* 0 *");
+        desk.add("0 c 1");
+        due("the first stroke is another's", desk.translations(), "1 0 1");
+        desk.add("0 d 1 2");
+        due("the first two are one's", desk.translations(), "2 1");
+        desk.drop(0);
+        due("numbers alone have changed", desk.translations(), "1 0");
     }
 
     private static void droppedOutlineIsFree() {

@@ -221,6 +221,9 @@ public final class BoundsOfPlanTest {
         plans("0 1", "cared", "0 care 1", "2 ed 2");
         plans("-2", "tryed", "0 try 1", "2 ed 2");
         plans("0 1", "tried", "0 try 1", "2 ed 2");
+        plans("-2", "ad", "0 e 1", "2 d 2");
+        plans("0 1", "ed", "0 e 1", "2 d 2");
+        plans("-2", "cat s", "0 cat 1", "2 s 2");
         plans("-2", "catsed", "0 cat 1", "2 s 2", "2 ed 3");
         plans("0 1", "abcdefghijklmnopabcdefghijklmnop", "0 abcdefghijklmnop 1", "2 abcdefghijklmnop 2");
         plans("0 1", "bcdfghjklmnpqrattaaaaaaaaaaaaaaaa", "0 bcdfghjklmnpqrat 1", "2 aaaaaaaaaaaaaaaa 2");
@@ -341,6 +344,15 @@ public final class BoundsOfPlanTest {
         due("twenty of word and suffix", joined.plan("bs ".repeat(19) + "bs"), 200);
         due("their entries", joined.count(8), 40);
         due("clear, too", joined.clear(), 1);
+        Desk last = new Desk("0 b 1", "2 s 2", "0 x 4");
+        due("the last of sixty bytes is joined", last.plan("bs ".repeat(19) + "xes"), 40);
+        due("its word", last.planned(38), 2);
+        due("its suffix", last.planned(39), 1);
+        Desk one = new Desk("0 abcdefghijklmnop 1", "0 " + "a".repeat(16) + " 2", "1 " + "b".repeat(16) + " 4");
+        due("one word of sixty", one.plan("b".repeat(32) + "bbbbbbbbbbbb" + "a".repeat(16)), CANNOT);
+        one.add("1 bbbb 8");
+        due("one word of sixty, six entries", one.plan("b".repeat(44) + "a".repeat(16)), 6);
+        due("the least of them", one.planned(), "2 2 3 3 3 1");
     }
 
     private static void latestPlanStays() {

@@ -36,6 +36,7 @@ public final class BoundsOfRecordTest {
         rawByItself();
         countWhat();
         countOfShiftAndLink();
+        shiftAndLinkFromZero();
         toldWhat();
         toldLengths();
         toldNoSuchTranslation();
@@ -427,6 +428,24 @@ public final class BoundsOfRecordTest {
         empty.back();
         empty.back();
         due("taken back", empty.count(6) + " " + empty.count(7), "0 0");
+    }
+
+    private static void shiftAndLinkFromZero() {
+        sentence("THE TEXT of TRANSLATIONS, one behind the other, from an empty text and SHIFT, LINK 0");
+        Desk desk = new Desk("0 cat 1", "8 - 2", "7 - 4").strokes(1, 2, 4);
+        due("both wait", desk.counts(), "3 3 0 3 3 0 2 1 0 0");
+        due("ahead of them", desk.text(), "cat");
+        due("back", desk.back(), 4);
+        due("the shift alone", desk.count(6) + " " + desk.count(7), "2 0");
+        due("back", desk.back(), 2);
+        due("neither", desk.count(6) + " " + desk.count(7), "0 0");
+        due("small, with a blank", desk.textOf(1), "cat cat");
+        desk.strokes(2, 4);
+        due("both wait again", desk.count(6) + " " + desk.count(7), "2 1");
+        desk.insert(0, 1);
+        due("the first is small still", desk.text(), "cat cat cat");
+        due("both wait still", desk.count(6) + " " + desk.count(7), "2 1");
+        due("for the next", desk.textOf(1), "cat cat catCAT");
     }
 
     private static void toldWhat() {

@@ -59,6 +59,7 @@ public final class BoundsOfTextTest {
         doubledAheadOfEachLetter();
         nothingElse();
         suffixBehindSuffix();
+        eachJoinByItsOwnWord();
         stopBehindNothing();
         marksWithoutABlank();
         commandsWriteNothing();
@@ -488,6 +489,23 @@ public final class BoundsOfTextTest {
         CHECK.due("bat e er", new Desk(book).textOf(1, 5, 3), "batter");
         CHECK.due("bat s s", new Desk(book).textOf(1, 4, 4), "batses");
         CHECK.due("a suffix as a word, then another", new Desk(book).textOf(4, 4), "ses");
+    }
+
+    private static void eachJoinByItsOwnWord() {
+        sentence("by the first of these that holds");
+        String[] book = {"0 cat 1", "0 at 2", "2 ed 3", "2 s 4", "0 y 5", "0 by 6", "0 e 7", "0 be 8", "0 rain 9"};
+        CHECK.due("three letters, then two", new Desk(book).textOf(1, 3, 2, 3), "catted ated");
+        CHECK.due("two letters, then three", new Desk(book).textOf(2, 3, 1, 3), "ated catted");
+        CHECK.due("three letters twice", new Desk(book).textOf(1, 3, 1, 3), "catted catted");
+        CHECK.due("two vowels, then one", new Desk(book).textOf(9, 3, 1, 3), "rained catted");
+        CHECK.due("two letters by y, then one", new Desk(book).textOf(6, 4, 5, 4), "bies ys");
+        CHECK.due("two letters by e, then one", new Desk(book).textOf(8, 3, 7, 3), "bed eed");
+        CHECK.due("one letter by e, then two", new Desk(book).textOf(7, 3, 8, 3), "eed bed");
+        Desk again = new Desk(book);
+        CHECK.due("three letters", again.textOf(1, 3), "catted");
+        again.back();
+        again.back();
+        CHECK.due("taken back, then two", again.textOf(2, 3), "ated");
     }
 
     private static void stopBehindNothing() {
