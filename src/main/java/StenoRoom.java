@@ -918,7 +918,8 @@ public final class StenoRoom {
 
         /** From the end on each translation tells where the one ahead of it ends. */
         private void findLasts() {
-            int last = record.size() - 1;
+            int strokes = Math.min(record.size(), RECORD_STROKES);
+            int last = strokes - 1;
             for (int i = last; i >= 0; i--) {
                 owners[i] = i == last ? 1 : 0;
                 if (i == last) {
@@ -926,7 +927,7 @@ public final class StenoRoom {
                 }
             }
             size = 0;
-            for (int i = 0; i < record.size(); i++) {
+            for (int i = 0; i < strokes; i++) {
                 boolean ends = owners[i] == 1;
                 owners[i] = size;
                 if (ends) {
@@ -1227,7 +1228,8 @@ public final class StenoRoom {
             size = 0;
             skipped = book.strokesOf(a);
             for (int k = 0; k < book.size(); k++) {
-                if (book.strokesOf(k) > skipped && areStrokesAlike(a, k, 0, skipped)) {
+                boolean goesOn = book.strokesOf(k) > skipped && areStrokesAlike(a, k, 0, skipped);
+                if (goesOn && size < MOST_ENTRIES) {
                     longer[size] = k;
                     size++;
                 }
